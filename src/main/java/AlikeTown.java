@@ -751,7 +751,8 @@ public final class AlikeTown {
 
         static int alikeOf(int code, int other) {
             int differ = code ^ other;
-            return MARKS - Integer.bitCount((differ | differ >> 1) & LOW_BITS | blanksOf(code));
+            int unlike = differ | differ >> 1 | code & code >> 1;
+            return MARKS - Integer.bitCount(unlike & LOW_BITS);
         }
     }
 
@@ -1574,8 +1575,8 @@ public final class AlikeTown {
         private static final int MOST_DEPTH = 40;
         private static final int MOST_BODIES = 40;
 
-        /** For each KIND the one above it. */
-        private static final int[] ABOVE = {-1, 0, 0, 0, FREE, HELD, NEW};
+        /** For each KIND the one above it: FREE, HELD and NEW have LINKED, CHURCH and BOUGHT under them. */
+        private static final int[] ABOVE = {-1, 0, 0, 0, 1, 2, 3};
 
         /** For each KIND the numbers of its own BODIES of the four acts; 0: it has none. */
         private static final int[] OWN = {

@@ -313,6 +313,11 @@ public final class PromisesTest {
     }
 
     private static void tellsWhatMayStand() {
+        fresh();
+        is("11 any", x.may(0, -1), 81);
+        is("11 any", x.may(0, 0), 0);
+        is("11 any", x.may(0, 80), 80);
+        is("11 none", x.may(0, 81), Due.NONE);
         row(0, 0, -1, 40, 0);
         is("11 how many", x.may(1, -1), 12);
         is("11 the first", x.may(1, 0), 17);
@@ -458,6 +463,11 @@ public final class PromisesTest {
         value("0|0", 0);
         value("3&2", 1);
         value("3&0", 0);
+        value("0&3", 0);
+        value("3&1", 1);
+        value("1&3", 1);
+        value("(3|0)*c", 2);
+        value("(2&3)*(1<2)", 1);
         value("1|0&0", 1);
         value("1&0|2", 1);
         value("1|1+1", 1);
@@ -563,6 +573,19 @@ public final class PromisesTest {
         law(4, 4);
         is("17 not lawful throughout", x.steps(0, 0, 1), Due.NONE);
         is("17 but by a wish", x.wish(0, 0, 1, 0), 2);
+        row(0, 13, 0, 13);
+        is("17 three", x.steps(1, 1, 1), 3);
+        is("17 nothing is changed", x.ofLot(0, 4) + x.ofLot(1, 4) + x.ofLot(2, 4), 2);
+        fresh();
+        x.town(2, 3, 0);
+        x.build(1, 0, 0);
+        x.build(0, 0, 13);
+        x.build(2, 0, 13);
+        x.build(4, 0, 13);
+        is("17 not by three", x.steps(1, 1, 1), Due.NONE);
+        is("17 but by a wish", x.wish(1, 1, 1, 0), 2);
+        row(0, 13, 0, -1, 13);
+        is("17 those side by side alone", x.steps(1, 1, 1), 2);
         row(0, 0, 13);
         is("17 colour", x.steps(0, 0, 1), Due.NONE);
         law(1, 2);
@@ -816,6 +839,8 @@ public final class PromisesTest {
         is("28 none", x.pays(0), Due.NONE);
         is("28 beyond", x.pays(2), Due.BEYOND);
         is("28 beyond", x.pays(-1), Due.BEYOND);
+        row(0, 27);
+        is("28 the first change", x.pays(0), 0);
         row(0, 0, 13, -1, 0);
         Due.text(x, 1, "r");
         is("28 lawful behind it", x.pays(0), 5);
@@ -1150,6 +1175,24 @@ public final class PromisesTest {
         is("38 again", x.image(), 3);
         x.restore();
         is("38 in place", x.count(1), 1);
+        keepsALargeTown();
+    }
+
+    private static void keepsALargeTown() {
+        fresh();
+        x.town(8, 8, 2);
+        x.build(63, 69, 80);
+        x.image();
+        x.town(8, 8, 0);
+        x.build(63, 0, 0);
+        x.restore();
+        is("39 house", x.pull(63), 80);
+        x.build(63, 0, 0);
+        int near = 0;
+        for (int lot = 0; lot < 64; lot++) {
+            near += x.may(lot, -1) == 32 ? lot : 0;
+        }
+        is("39 sides of the last lot", near, 7 + 55 + 56 + 62);
     }
 
     private static void checksWhatWaits() {
