@@ -1217,7 +1217,7 @@ public final class PromisesTest {
         x.tell(12);
         x.tell(81);
         x.tell(32);
-        x.tell(0);
+        x.tell(81);
         is("41 beyond the last lot", x.check(), 5);
         x.tell(MIN);
         is("41 the first", x.check(), 1);
