@@ -1178,21 +1178,29 @@ public final class PromisesTest {
         keepsALargeTown();
     }
 
+    /** All pairs of a torus are WRONG: they tell what is SIDE BY SIDE, throughout. */
     private static void keepsALargeTown() {
         fresh();
         x.town(8, 8, 2);
-        x.build(63, 69, 80);
-        x.image();
-        x.town(8, 8, 0);
-        x.build(63, 0, 0);
-        x.restore();
-        is("39 house", x.pull(63), 80);
-        x.build(63, 0, 0);
-        int near = 0;
         for (int lot = 0; lot < 64; lot++) {
-            near += x.may(lot, -1) == 32 ? lot : 0;
+            Due.put(x, lot, 69, 80);
         }
-        is("39 sides of the last lot", near, 7 + 55 + 56 + 62);
+        x.image();
+        x.town(8, 7, 0);
+        x.restore();
+        is("39 pairs", x.wrong(-1), 128);
+        int i = 0;
+        for (int lot = 0; lot < 64; lot++) {
+            for (int other = lot + 1; other < 64; other++) {
+                int across = Math.abs(lot % 8 - other % 8);
+                int down = other / 8 - lot / 8;
+                if ((across == 0 && (down == 1 || down == 7)) || (down == 0 && (across == 1 || across == 7))) {
+                    is("39 pair " + i, x.wrong(i), 64 * lot + other);
+                    i++;
+                }
+            }
+        }
+        is("39 house", x.pull(63), 80);
     }
 
     private static void checksWhatWaits() {
