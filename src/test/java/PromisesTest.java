@@ -1186,8 +1186,11 @@ public final class PromisesTest {
             Due.put(x, lot, 69, 80);
         }
         x.image();
+        x.town(8, 8, 0);
+        x.build(63, 10, 0);
         x.town(8, 7, 0);
         x.restore();
+        is("39 m", x.as(63, 6), 9);
         is("39 pairs", x.wrong(-1), 128);
         int i = 0;
         for (int lot = 0; lot < 64; lot++) {
