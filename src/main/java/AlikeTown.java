@@ -657,10 +657,8 @@ public final class AlikeTown {
         }
 
         int costText(int k, int m) {
-            if (texts[COST].isMissing()) {
-                return 10 + m;
-            }
-            return Math.max(0, Math.min(MOST_COST, texts[COST].value(k, m, 0, 0)));
+            int cost = texts[COST].isMissing() ? 10 + m : texts[COST].value(k, m, 0, 0);
+            return Math.max(0, Math.min(MOST_COST, cost));
         }
 
         int worthText(int c, int r, int d, int v) {

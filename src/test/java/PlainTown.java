@@ -175,8 +175,8 @@ public final class PlainTown {
     int draw() { s.z = s.z * 1103515245 + 12345; return s.z >>> 8; }
     int worthOf(int[] k) { return worthText(k[0], k[1], k[2], k[3]); }
     int costText(int k, int m) {
-        if (s.texts[0] == null) return 10 + m;
-        return Math.max(0, Math.min(99, eval(s.texts[0], "km", k, m)));
+        String text = s.texts[0] == null ? "10+m" : s.texts[0];
+        return Math.max(0, Math.min(99, eval(text, "km", k, m)));
     }
     int worthText(int... v) {
         if (s.texts[1] == null) return 0;

@@ -496,6 +496,7 @@ public final class PromisesTest {
         fresh();
         is("15 cost without a text", x.law(0, 3, 5, 0, 0), 15);
         is("15 worth without a text", x.law(1, 3, 5, 0, 0), 0);
+        holdsCostWithoutText();
         Due.text(x, 0, "k*100+m");
         is("15 held", x.law(0, 1, 0, 0, 0), 99);
         is("15 held", x.law(0, -1, 0, 0, 0), 0);
@@ -508,6 +509,34 @@ public final class PromisesTest {
         is("15 wraps", x.law(0, MIN, -1, 0, 0), 0);
         Due.text(x, 0, "(k+m<0)*7");
         is("15 wraps", x.law(0, MAX, 1, 0, 0), 7);
+    }
+
+    private static void costWithoutText(int m, int due) {
+        is("15 cost without a text of m " + m, x.law(0, 0, m, 0, 0), due);
+        is("15 cost without a text of m " + m + ", k is nothing", x.law(0, MAX, m, MIN, MAX), due);
+    }
+
+    private static void holdsCostWithoutText() {
+        costWithoutText(88, 98);
+        costWithoutText(89, 99);
+        costWithoutText(90, 99);
+        costWithoutText(394413492, 99);
+        costWithoutText(MAX - 10, 99);
+        costWithoutText(-9, 1);
+        costWithoutText(-10, 0);
+        costWithoutText(-11, 0);
+        costWithoutText(-394413492, 0);
+        costWithoutText(-1000000010, 0);
+        costWithoutText(-1000000011, 0);
+        costWithoutText(MIN, 0);
+        // Ints of TEXTS wrap, so 10+m does too: below 0 here, as the TEXT "10+m" gives it.
+        costWithoutText(MAX - 9, 0);
+        costWithoutText(MAX, 0);
+        is("15 worth without a text", x.law(1, MAX, MAX, MAX, MAX), 0);
+        is("15 worth without a text", x.law(1, MIN, MIN, MIN, MIN), 0);
+        Due.text(x, 0, "10+m");
+        costWithoutText(394413492, 99);
+        costWithoutText(MAX, 0);
     }
 
     private static void wishes() {
