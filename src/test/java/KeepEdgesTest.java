@@ -24,6 +24,7 @@ public final class KeepEdgesTest {
         keepsImages();
         keepsSheetsTraceAndErrors();
         restoresAll();
+        restoresNoTexts();
         tellsTwenty();
         checksEachPlace();
         checksBeyondTheLastLot();
@@ -609,6 +610,26 @@ public final class KeepEdgesTest {
             y.restore();
         };
         Look.same("39 all is as the image has it", restored, kept);
+    }
+
+    /** What an IMAGE hasn't, isn't there behind it: TEXTS, what waits, THE TAPE. */
+    private static void restoresNoTexts() {
+        row(80);
+        x.image();
+        Due.text(x, 0, "m*7+2");
+        Due.text(x, 1, "c*9+v");
+        is("39 cost ahead", x.ofLot(0, 7), 2);
+        is("39 worth ahead", x.worth(), 20);
+        x.tell(5);
+        x.feed(0, 8);
+        x.restore();
+        is("39 no text of cost", x.ofLot(0, 7), 10);
+        is("39 no text of cost", x.law(0, 4, 50, 0, 0), 60);
+        is("39 no text of worth", x.ofLot(0, 11), 0);
+        is("39 no text of worth", x.law(1, 50, 50, 50, 50), 0);
+        is("39 no text of worth", x.worth(), 0);
+        is("39 nothing on the tape", x.text(0), -10);
+        is("39 nothing waits", x.check(), 0);
     }
 
     // ---- promises 40 and 41

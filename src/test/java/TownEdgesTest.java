@@ -163,6 +163,13 @@ public final class TownEdgesTest {
         Look.refuses("3 beyond ahead of state", Due.BEYOND, y -> y.rule(0, 5));
         Look.refuses("3 beyond ahead of state", Due.BEYOND, y -> y.rule(1, -1));
         Look.refuses("3 what is beyond", Due.BEYOND, y -> y.rule(2, 5));
+        x = new AlikeTown();
+        is("3 what most was", x.rule(1, 3), 1);
+        is("3 what least was", x.rule(0, 2), 1);
+        is("3 what most was", x.rule(1, 4), 3);
+        is("3 what least was", x.rule(0, 0), 2);
+        is("3 what most was", x.rule(1, 1), 4);
+        is("3 what least was", x.rule(0, 1), 0);
     }
 
     /** "STATE: LEAST would be above MOST": just below, there, and just above. */

@@ -19,11 +19,14 @@ public final class WorkEdgesTest {
         changesEachMarkOnce();
         changesNoMarkOfTheWishOtherwise();
         wishesOfBlanksAndChurches();
+        wishesAnew();
         asksStepsOfLawfulTowns();
         stepsNoneToThree();
+        stepsOfTheLotItself();
         stepsBesideTheLotAlone();
         rightsNoneToFour();
         rightsManyPairs();
+        rightsBySortsAlone();
         countsRows();
         countsRings();
         countsBefore();
@@ -42,6 +45,7 @@ public final class WorkEdgesTest {
         paysNothing();
         livesOneTo200Years();
         changesByDraws();
+        livesYearByYear();
         Due.end("WorkEdgesTest");
     }
 
@@ -282,6 +286,26 @@ public final class WorkEdgesTest {
         is("16 a church has it, others are put right", x.wish(3, 0, 0, 1), 30);
     }
 
+    /** What was asked ahead doesn't matter: a MARK that a WISH was about may be CHANGED for another one. */
+    private static void wishesAnew() {
+        row(0, 0, 1);
+        law(x, 4, 4);
+        x.become(0, 30);
+        for (int i = 0; i < 4; i++) {
+            is("16 its vane stays", x.wish(0, 3, 0, 1), 10);
+            is("16 its vane is free", x.wish(1, 0, 0, 1), 0);
+            is("16 the other's vane stays", x.wish(1, 3, 1, 1), 0);
+            is("16 neither stays", x.right(), 1);
+        }
+        x.become(0, 0);
+        x.become(1, 30);
+        for (int i = 0; i < 4; i++) {
+            is("16 the other's vane stays", x.wish(1, 3, 1, 1), 10);
+            is("16 its vane is free", x.wish(0, 0, 0, 1), 0);
+            is("16 its vane stays", x.wish(0, 3, 0, 1), 0);
+        }
+    }
+
     // ---- promise 17
 
     private static final Look.Setup UNLAWFUL = y -> {
@@ -336,6 +360,40 @@ public final class WorkEdgesTest {
             x.become(0, 10 * kind);
             is("17 one of the other ahead", x.steps(1, 1, 1), kind == 5 ? 1 : 2);
         }
+    }
+
+    private static void town(int least, int most, int columns, int... houses) {
+        x = new AlikeTown();
+        x.town(houses.length / columns, columns, 0);
+        law(x, least, most);
+        for (int lot = 0; lot < houses.length; lot++) {
+            is("17 build", x.build(lot, 0, houses[lot]), lot + 1);
+        }
+    }
+
+    /** "of the LOT ..": another MARK of it is CHANGED ahead, or the same one to another SORT. */
+    private static void stepsOfTheLotItself() {
+        town(1, 2, 2, 50, 59, 66, 41);
+        is("17 its door ahead", x.steps(3, 0, 2), 2);
+        Due.holds("17 its door", x.paint(3, 2, 0) >= 0);
+        is("17 its door is changed", x.steps(3, 0, 2), 1);
+        town(2, 3, 2, 22, 12, 77, 68);
+        is("17 its colour ahead", x.steps(3, 1, 2), 2);
+        Due.holds("17 its colour", x.paint(3, 0, 0) >= 0);
+        is("17 its colour is changed", x.steps(3, 1, 2), 1);
+        town(2, 3, 3, 73, 37, 29, 22, 1, 20);
+        is("17 its roof and another's colour", x.steps(1, 2, 1), 3);
+        Due.holds("17 its roof", x.paint(1, 1, 0) >= 0);
+        is("17 another's colour", x.steps(1, 2, 1), 2);
+        Due.holds("17 another's colour", x.paint(0, 0, 1) >= 0);
+        is("17 both are changed", x.steps(1, 2, 1), 1);
+        // As STEPS is read here, the MARK of the WISH may be CHANGED twice.
+        town(1, 1, 3, 0, 58, 27);
+        is("17 the mark itself ahead", x.steps(0, 0, 2), 3);
+        Due.holds("17 the mark itself", x.paint(0, 0, 1) >= 0);
+        is("17 then the other's", x.steps(0, 0, 2), 2);
+        Due.holds("17 the other's", x.paint(1, 0, 0) >= 0);
+        is("17 then once more", x.steps(0, 0, 2), 1);
     }
 
     /** "of the LOT and those SIDE BY SIDE with it alone": LOT 3 would have to be CHANGED for LOT 1. */
@@ -413,6 +471,27 @@ public final class WorkEdgesTest {
             is("16 a wish likewise", x.wish(9, 0, 0, 0), many <= 4 ? many : Due.NONE);
             is("16 a wish likewise", x.wish(9, 0, 0, 1), many <= 4 ? 19 * many : Due.NONE);
         }
+    }
+
+    /**
+     * "a MARK gets a SORT 0 to 2": two HOUSES have one colour, and each of them two others about it that have the
+     * other two; nothing else is alike. If a MARK could get BLANK, one CHANGE would do.
+     */
+    private static void rightsBySortsAlone() {
+        x = new AlikeTown();
+        x.town(2, 4, 0);
+        law(x, 0, 0);
+        int[] colours = {2, 0, 0, 1, -1, 1, 2, -1};
+        for (int lot = 0; lot < 8; lot++) {
+            if (colours[lot] >= 0) {
+                Due.put(x, lot, 0, 27 * colours[lot] + (lot % 4 + lot / 4) % 2 * 13);
+            }
+        }
+        is("18 one pair", x.wrong(-1) * 10000 + x.wrong(0), 10000 + 64 + 2);
+        is("18 no sort is free", x.right(), 2);
+        is("18 no change but by two", x.pays(0), Due.NONE);
+        x.storm(0, 0);
+        is("18 blanks", x.wrong(-1) + x.right(), 0);
     }
 
     // ---- promises 19 and 20
@@ -943,6 +1022,25 @@ public final class WorkEdgesTest {
         Look.refuses("28 lawful now, by none then", tight, Due.NONE, y -> y.pays(0));
         row(0, 0, 4, -1, 0);
         is("28 lawful by one, not by another lot's", x.pays(0), 1);
+        x = new AlikeTown();
+        x.town(3, 3, 0);
+        law(x, 4, 4);
+        x.sheet(0, 8, 9);
+        x.builds(0);
+        is("28 lawful now", x.pays(0), Due.NONE);
+        for (int lot = 0; lot < 9; lot++) {
+            x.pull(lot);
+            Due.put(x, lot, 0, 1);
+            is("28 all that is wrong is about lot " + lot, x.pays(0), 12 * lot + 9);
+            is("28 its cost", x.pays(1), -10);
+            x.pull(8 - lot);
+            Due.put(x, 8 - lot, 0, 1);
+            is("28 not so of two lots", x.pays(0), lot == 4 ? 12 * 4 + 9 : Due.NONE);
+            x.pull(8 - lot);
+            Due.put(x, 8 - lot, 0, 0);
+            x.pull(lot);
+            Due.put(x, lot, 0, 0);
+        }
     }
 
     // ---- promise 29
@@ -999,5 +1097,55 @@ public final class WorkEdgesTest {
         is("29 lawful once, and then no more", x.years(200), 1);
         is("29 lawful then", x.wrong(-1), 0);
         is("29 spent", x.count(7), 10);
+    }
+
+    /** A year is a paint() of what is drawn, which stays if THE TOWN is LAWFUL behind it. */
+    private static void livesYearByYear() {
+        for (int seed = 0; seed < 8; seed++) {
+            AlikeTown plain = new AlikeTown();
+            x = new AlikeTown();
+            livesIn(x, seed);
+            livesIn(plain, seed);
+            int z = seed;
+            int changed = 0;
+            for (int year = 0; year < 60; year++) {
+                int first = z * 1103515245 + 12345;
+                int second = first * 1103515245 + 12345;
+                z = second * 1103515245 + 12345;
+                plain.image();
+                boolean isPainted = plain.paint((first >>> 8) % 6, (second >>> 8) % 4, (z >>> 8) % 3) >= 0;
+                boolean stays = isPainted && plain.wrong(-1) == 0;
+                if (isPainted && !stays) {
+                    plain.restore();
+                }
+                changed += stays ? 1 : 0;
+                is("29 changed in year " + year, x.years(1), stays ? 1 : 0);
+                is("29 spent", x.count(7), plain.count(7));
+            }
+            Due.holds("29 changed often", changed > 5);
+            AlikeTown together = new AlikeTown();
+            livesIn(together, seed);
+            is("29 so many of 60 years", together.years(60), changed);
+            for (int lot = 0; lot < 6; lot++) {
+                is("29 house in " + lot, x.pull(lot), plain.pull(lot));
+            }
+        }
+    }
+
+    private static void livesIn(AlikeTown y, int seed) {
+        y.seed(seed);
+        y.town(2, 3, 1);
+        law(y, 1, 2);
+        int[] houses = {0, 13, seed % 4 == 2 ? 1 : -1, -1, 17, 80};
+        for (int lot = 0; lot < 6; lot++) {
+            if (houses[lot] >= 0) {
+                Due.put(y, lot, 11 * lot + 3, houses[lot]);
+            }
+        }
+        is("29 wrong at first", y.wrong(-1), seed % 4 == 2 ? 1 : 0);
+        if (seed % 2 == 1) {
+            y.become(5, 0);
+            y.build(3, 3, 22);
+        }
     }
 }
