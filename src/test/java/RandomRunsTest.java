@@ -1,7 +1,10 @@
 import java.util.Random;
 
-/** Random runs of 512 calls, each answer compared with that of PlainTown. */
+/** Random runs of calls, each answer compared with that of PlainTown. */
 public final class RandomRunsTest {
+    /** Some acts take more than one call, and an object is used for 512. */
+    private static final int ACTS = 430;
+
     private static final String SIGNS = "kmcrdv0123456789|&<=>+-*/%!()";
 
     private final Random random;
@@ -25,7 +28,7 @@ public final class RandomRunsTest {
     }
 
     private boolean isRight(long seed) {
-        for (int i = 0; i < 512; i++) {
+        for (int i = 0; i < ACTS; i++) {
             oneCall();
             if (got != want) {
                 System.out.println("seed " + seed + " call " + i + ": " + call + " answered " + got + ", due is " + want);
